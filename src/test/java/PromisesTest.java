@@ -33,6 +33,7 @@ final class PromisesTest {
         shifts();
         image();
         restore();
+        restoreFound();
         count();
         digest();
         CHECKS.end();
@@ -191,6 +192,7 @@ final class PromisesTest {
         x.exchange(0, 3);
         x.found(0, 1);
         x.image();
+        due("hung() of four HOOKS", x.hung(), 8);
         write(x, "31,41,52;907");
         due("floor()", x.floor(), 3);
         int[] counts = {3, 0, 0, 0, 0, 0, 0, 0, 2};
@@ -274,8 +276,11 @@ final class PromisesTest {
         due("belt(0, 3)", x.belt(0, 3), OUTSIDE);
         due("belt(0, -1)", x.belt(0, -1), OUTSIDE);
         x.carry(0);
-        due("the first went: belt(0, 0)", x.belt(0, 0), SOFT);
-        due("the first went: belt(3, 1)", x.belt(3, 1), 1);
+        for (int place = 0; place < 4; place++) {
+            due("the first went: belt(" + place + ", 0)", x.belt(place, 0), place + 1);
+            due("the first went: belt(" + place + ", 1)", x.belt(place, 1), towns[place + 1]);
+            due("the first went: belt(" + place + ", 2)", x.belt(place, 2), grips[place + 1]);
+        }
         due("the first went: belt(4, 1)", x.belt(4, 1), UNKNOWN);
         due("it is in the sack", x.hook(0, 4), 1);
     }
@@ -476,7 +481,6 @@ final class PromisesTest {
         due("odds(0, -1, 0)", x.odds(0, -1, 0), UNKNOWN);
         due("odds(0, 0, 6)", x.odds(0, 0, 6), OUTSIDE);
         due("odds(0, 0, -1)", x.odds(0, 0, -1), OUTSIDE);
-        due("as much either way: carry it", floored("41,41,41;111").odds(PARCEL, 0, 5), 0);
     }
 
     private static void allOdds(ThrownSacks x, int[][][] told) {
@@ -728,6 +732,23 @@ final class PromisesTest {
         due("image()", x.image(), 0);
         due("restore()", x.restore(), 0);
         due("count(8)", x.count(8), 2);
+    }
+
+    private static void restoreFound() {
+        promise = "promise 22, FOUND";
+        ThrownSacks x = floored("19,29,39,49;1111");
+        x.found(0, 1);
+        x.found(2, 3);
+        x.image();
+        due("hung()", x.hung(), 4);
+        due("where(3)", x.where(3), 14);
+        x.forget();
+        x.found(3, 0);
+        due("hung()", x.hung(), 8);
+        due("restore()", x.restore(), 0);
+        due("hung() as it was", x.hung(), 4);
+        due("where(3) as it was", x.where(3), 14);
+        due("count(6)", x.count(6), 2);
     }
 
     private static void count() {
