@@ -253,6 +253,13 @@ final class EdgesOfTermsTest {
             "parcel TIN 2 | carry 1 | count 5 = 0 | parcel TIN 2 | carry 2 | count 5 = 1");
         told("all of a sack but one", "read 19,19,19;111", "8 times parcel GLASS 0 | 8 times carry 0 | parcel TIN 0 | carry 0",
             "count 5 = 8 | hook 0 3 = 9");
+        told("into that sack: not the GLASS where it was thrown at, when it comes NEXT", "read 79,79,79;111",
+            "2 times parcel GLASS 0 | 2 times parcel TIN 0 | carry 0 | carry 1 | toss 0 NEXT = 1 | count 5 = 1",
+            "toss 0 BESIDE = 0 | count 5 = 2");
+        told("a GLASS thrown behind a TIN is HARMED by the throw alone", "read 79,79,79;111",
+            "parcel TIN 0 | 2 times parcel GLASS 0 | carry 0 | toss 0 IN | count 5 = 1 | toss 0 BESIDE | count 5 = 1");
+        told("GLASS of a CHANGED sack is not in it", "read 79,79,79;111", "8 times parcel GLASS 0 | 8 times carry 0 | change 0 = 8",
+            "parcel TIN 0 | carry 0 | count 5 = 0 | parcel GLASS 0 | parcel TIN 0 | carry 0 | carry 0 | count 5 = 1");
         told("a TIN that is refused harms none", "read 81,81,81;111", "parcel GLASS 0 | carry 1 | parcel TIN 0",
             "toss 1 BESIDE = STATE | carry 1 = STATE | toss 0 IN = STATE | toss 0 NEXT = STATE | toss 2 NEXT = STATE | count 5 = 0");
     }
@@ -272,6 +279,9 @@ final class EdgesOfTermsTest {
             "carry 0 | hook 0 3 = 1 | parcel GLASS 1 | carry 0 | carry 0 = STATE | change 0 = 2 | count 4 = 135 | hook 0 3 = 0",
             "hook 0 4 = 0 | hook 0 5 = 0",
             "hook 0 2 = 0 | count 2 = 0 | count 1 = 1 | carry 0 = 140");
+        told("a CHANGED sack is its TOWN'S still", "read 19,19,19;507",
+            "exchange 0 2 | parcel PARCEL 2 | parcel PARCEL 0 | carry 0 | change 0 = 1",
+            "hook 0 2 = 2 | hook 2 2 = 0 | hook 0 6 = 7 | carry 0 | hook 0 4 = 1 | exchange 0 2 | hook 2 4 = 1 | hook 0 2 = 0");
         told("only that one is CHANGED", "read 19,19,19;111", "3 times parcel GLASS 0 | carry 0 | carry 1 | carry 2 | change 1 = 1",
             "hook 0 3 = 1 | hook 1 3 = 0 | hook 2 3 = 1");
     }
@@ -439,6 +449,9 @@ final class EdgesOfTermsTest {
         told("what is in each", "read 19,29,39;507", "parcel GLASS 1 | parcel PARCEL 2 | carry 0 | carry 2 | image = 14 | change 0",
             "parcel TIN 0 | carry 2 | restore = 14",
             "hook 0 3 = 1 | hook 0 4 = 1 | hook 0 5 = 1 | hook 2 3 = 1 | hook 2 4 = 0 | count 2 = 2 | count 3 = 1");
+        told("what is in each: a full sack and an empty one", "read 19,29,39;507",
+            "8 times parcel GLASS 0 | 8 times carry 0 | parcel PARCEL 1 | carry 0 | image = 45 | change 0 = 9 | parcel TIN 1 | carry 1",
+            "restore = 45 | hook 0 3 = 9 | hook 0 4 = 1 | hook 0 5 = 8 | hook 1 3 = 0 | parcel TIN 0 | carry 0 = STATE | count 3 = 1");
         told("the BELT", "read 19,29,39;507", "parcel GLASS 1 | parcel TIN 2 | image = 0 | carry 0 | parcel SOFT 0 | parcel SOFT 0",
             "restore = 0",
             "count 1 = 2 | belt 0 0 = 3 | belt 0 1 = 1 | belt 1 0 = 4 | belt 1 1 = 2 | belt 2 0 = UNKNOWN");

@@ -3,10 +3,10 @@ import java.util.Random;
 /** Runs by chance (of fixed seeds) on two objects, one of which is spared all calls that the other refuses: they answer alike. */
 final class RefusedChangesNothingTest {
     private static final int RUNS = 600, CALLS = 240;
-    private static final String[] CALLED = {"letter 0-140", "blank", "floor", "parcel -1-5 -1-6", "parcel 0-4 0-2", "parcel 3-4 0-2", "toss -1-6 -1-3",
-        "toss 0-2 0-2", "carry -1-6", "carry 0-2", "change -1-6", "exchange -1-6 -1-6", "exchange 0-2 0-2", "found -1-6 -1-6", "found 0-2 0-2",
-        "forget", "image", "restore", "hook -1-6 -1-7", "belt -1-8 -1-3", "as -1-8 -1-5", "odds -1-5 -1-6 -1-6", "hanging -1-16", "hung", "where -1-6",
-        "shifts -1-61 -1-9 -1-3", "count -1-9", "digest", "fault"};
+    private static final String[] CALLED = {"letter 0-140", "blank", "floor", "parcel -1-5 -1-6", "parcel 0-4 0-2", "parcel 3-4 0-2",
+        "toss -1-6 -1-3", "toss 0-2 0-2", "carry -1-6", "carry 0-2", "change -1-6", "exchange -1-6 -1-6", "exchange 0-2 0-2",
+        "found -1-6 -1-6", "found 0-2 0-2", "forget", "image", "restore", "hook -1-6 -1-7", "belt -1-8 -1-3", "as -1-8 -1-5",
+        "odds -1-5 -1-6 -1-6", "hanging -1-16", "hung", "where -1-6", "shifts -1-61 -1-9 -1-3", "count -1-9", "digest", "fault"};
     private static final Checks CHECKS = new Checks();
 
     private final Random chance;
