@@ -353,7 +353,7 @@ public final class ThrownSacks {
 
     /** HOOKS and TOWNS have the same numbers. */
     private boolean isKnown(int hookOrTown) {
-        return hookOrTown >= 0 && hookOrTown < plan.hooks;
+        return plan.has(hookOrTown);
     }
 
     private boolean isFull(int hook) {
@@ -493,8 +493,12 @@ public final class ThrownSacks {
             }
         }
 
+        boolean has(int hookOrTown) {
+            return hookOrTown >= 0 && hookOrTown < hooks;
+        }
+
         int oftenOf(int town) {
-            return town >= 0 && town < hooks ? often[town] : 0;
+            return has(town) ? often[town] : 0;
         }
     }
 
@@ -618,6 +622,9 @@ public final class ThrownSacks {
 
         /** The first on the BELT comes into the sack of a HOOK; GLASS that flew there is HARMED. */
         void putFirst(int hook, boolean flew) {
+            if (hook < 0 || hook >= sacks.length) {
+                return;
+            }
             int kind = belt.kindAt(0);
             boolean harm = flew && kind == GLASS;
             if (kind == TIN) {
@@ -770,12 +777,18 @@ public final class ThrownSacks {
             for (int place = 0; place < now.found; place++) {
                 int town = now.foundTowns[place];
                 int in = now.foundIn[place];
-                if (beyond[town] != NONE && beyond[town] != in) {
+                if (beyondOf(town) != NONE && beyondOf(town) != in) {
                     return false;
                 }
-                beyond[town] = in;
+                if (town >= 0 && town < beyond.length) {
+                    beyond[town] = in;
+                }
             }
             return true;
+        }
+
+        private int beyondOf(int town) {
+            return town >= 0 && town < beyond.length ? beyond[town] : NONE;
         }
 
         private static void hangFrom(Ways ways, int hook, int hung, int hooks) {
@@ -796,16 +809,19 @@ public final class ThrownSacks {
                 return true;
             }
             int before = towns[hook - 1];
-            if (beyond[before] != NONE && beyond[before] != town) {
+            if (beyondOf(before) != NONE && beyondOf(before) != town) {
                 return false;
             }
-            return hook < hooks - 1 || beyond[town] == NONE || beyond[town] == before;
+            return hook < hooks - 1 || beyondOf(town) == NONE || beyondOf(town) == before;
         }
 
         private void keep(int hooks) {
             many++;
             for (int hook = 0; hook < hooks; hook++) {
-                places[towns[hook]] |= 1 << hook;
+                int town = towns[hook];
+                if (town >= 0 && town < places.length) {
+                    places[town] |= 1 << hook;
+                }
             }
         }
     }
@@ -824,17 +840,17 @@ public final class ThrownSacks {
             layBeside = 0;
             for (int parcel = 0; parcel < parcels; parcel++) {
                 int hook = now.hookOf(draw(plan.hooks));
-                if (hook >= 0 && hook < plan.hooks) {
-                    throwAt(plan, hook);
+                int next = nextTo(hook, plan.hooks);
+                if (plan.has(hook) && plan.has(next)) {
+                    throwAt(plan, hook, next);
                 }
             }
         }
 
-        private void throwAt(Plan plan, int hook) {
+        private void throwAt(Plan plan, int hook, int next) {
             if (held[hook] >= plan.room[hook]) {
                 held[hook] = 0;
             }
-            int next = nextTo(hook, plan.hooks);
             boolean nextIsFull = held[next] >= plan.room[next];
             int in = tenthsOf(PARCEL, plan.yards[hook], nextIsFull, IN);
             int inOrNext = in + tenthsOf(PARCEL, plan.yards[hook], nextIsFull, NEXT);
